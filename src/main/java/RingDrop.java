@@ -76,11 +76,13 @@ public final class RingDrop {
     private static final int SKIP_UNLESS = -11;
     private static final int STOP = -12;
     private static final int LETTER = -20;
-    private static final int CODE_MOST = 360;
-    private static final int STACK_MOST = 64;
+    // No byte of a text makes more than one code, but for the end of a want.
+    private static final int CODE_MOST = TAPE_MOST + 2;
+    private static final int STACK_MOST = 32;
     private static final int NESTED_MOST = 6;
     private static final int DIGITS_MOST = 4;
     private static final long NUMBER_MOST = 1000000L;
+    private static final int STIRRED_FROM = 50;
 
     private final Tape tape = new Tape();
     private final FormulaReader formulaReader = new FormulaReader(tape);
@@ -584,16 +586,14 @@ public final class RingDrop {
         }
         int bits = 0;
         for (int d = 0; d < dropCount; d++) {
-            if (has(drops, d) && canHaveLeft(stains[stain], law, d, seed, ticks, by)) {
-                bits |= 1 << d;
+            if (has(drops, d)) {
+                tryAlone(law, this.drops[d], seed, ticks);
+                if (trial.farthestFrom(stains[stain]) <= by) {
+                    bits |= 1 << d;
+                }
             }
         }
         return bits;
-    }
-
-    private boolean canHaveLeft(int[] told, int law, int drop, long seed, int ticks, int by) {
-        tryAlone(law, drops[drop], seed, ticks);
-        return trial.farthestFrom(told) <= by;
     }
 
     public int odds(int stain, int law, int drops, long seed, int ticks, int by) {
@@ -734,19 +734,6 @@ public final class RingDrop {
         int byteAt(int i) {
             return i >= 0 && i < length && i < bytes.length ? bytes[i] : NONE;
         }
-
-        boolean digitAt(int i) {
-            int b = byteAt(i);
-            return b >= '0' && b <= '9';
-        }
-
-        int pastBlanks(int from) {
-            int i = from;
-            while (i < length && byteAt(i) == ' ') {
-                i++;
-            }
-            return i;
-        }
     }
 
     /** A law or a want, in codes that a stack works off. */
@@ -782,7 +769,8 @@ public final class RingDrop {
                     if (depth >= stack.length) {
                         return 0;
                     }
-                    stack[depth] = code >= 0 ? code : letterOf(letters, LETTER - code);
+                    int letter = LETTER - code;
+                    stack[depth] = code >= 0 ? code : letter < letters.length ? letters[letter] : 0;
                     depth++;
                     continue;
                 }
@@ -802,23 +790,20 @@ public final class RingDrop {
                 } else if (depth < 2) {
                     return 0;
                 } else {
-                    stack[depth - 2] = joined(code, stack[depth - 2], top);
                     depth--;
+                    long v = joined(code, stack[depth - 1], top);
+                    stack[depth - 1] = (int) Math.max(-NUMBER_MOST, Math.min(NUMBER_MOST, v));
                 }
             }
             return 0;
         }
 
-        private static int letterOf(int[] letters, int i) {
-            return i >= 0 && i < letters.length ? letters[i] : 0;
-        }
-
-        private static int joined(int code, int a, int b) {
+        private static long joined(int code, long a, long b) {
             switch (code) {
-                case ADD: return bounded((long) a + b);
-                case SUBTRACT: return bounded((long) a - b);
-                case MULTIPLY: return bounded((long) a * b);
-                case DIVIDE: return b == 0 ? 0 : bounded((long) a / b);
+                case ADD: return a + b;
+                case SUBTRACT: return a - b;
+                case MULTIPLY: return a * b;
+                case DIVIDE: return b == 0 ? 0 : a / b;
                 case EQUAL: return a == b ? 1 : 0;
                 case LESS: return a < b ? 1 : 0;
                 case MORE: return a > b ? 1 : 0;
@@ -826,10 +811,6 @@ public final class RingDrop {
                 case OR: return a | b;
                 default: return 0;
             }
-        }
-
-        private static int bounded(long v) {
-            return (int) Math.max(-NUMBER_MOST, Math.min(NUMBER_MOST, v));
         }
     }
 
@@ -880,7 +861,7 @@ public final class RingDrop {
             for (int n = 0; n < TAPE_MOST && good && goesOnWith(';'); n++) {
                 good = readClause();
             }
-            return good && atEnd() ? NONE : at;
+            return good && nextByte() == NONE ? NONE : at;
         }
 
         int faultOfWant() {
@@ -889,7 +870,7 @@ public final class RingDrop {
                 return at;
             }
             read.add(STOP);
-            return atEnd() ? NONE : at;
+            return nextByte() == NONE ? NONE : at;
         }
 
         private void open(String its) {
@@ -898,13 +879,12 @@ public final class RingDrop {
             read.length = 0;
         }
 
+        /** The next byte that is no blank, NONE at the end; at is there then. */
         private int nextByte() {
-            at = tape.pastBlanks(at);
+            while (at < tape.length && tape.byteAt(at) == ' ') {
+                at++;
+            }
             return tape.byteAt(at);
-        }
-
-        private boolean atEnd() {
-            return nextByte() == NONE;
         }
 
         private boolean goesOnWith(int sign) {
@@ -944,48 +924,44 @@ public final class RingDrop {
 
         /** With its first sum read already, if sumThere. */
         private boolean readCondition(int depth, boolean sumThere) {
-            if (!readTruth(depth, sumThere)) {
-                return false;
-            }
-            for (int n = 0; n < TAPE_MOST && goesOnWith('|'); n++) {
-                if (!readTruth(depth, false)) {
+            int truths = 0;
+            for (int n = 0; n < TAPE_MOST; n++) {
+                if (!readUnit(depth, sumThere && n == 0)) {
                     return false;
                 }
-                read.add(OR);
-            }
-            return true;
-        }
-
-        private boolean readTruth(int depth, boolean sumThere) {
-            if (!readUnit(depth, sumThere)) {
-                return false;
-            }
-            for (int n = 0; n < TAPE_MOST && goesOnWith('&'); n++) {
-                if (!readUnit(depth, false)) {
-                    return false;
+                for (int m = 0; m < TAPE_MOST && goesOnWith('&'); m++) {
+                    if (!readUnit(depth, false)) {
+                        return false;
+                    }
+                    read.add(AND);
                 }
-                read.add(AND);
+                if (truths > 0) {
+                    read.add(OR);
+                }
+                truths++;
+                if (!goesOnWith('|')) {
+                    return true;
+                }
             }
             return true;
         }
 
         private boolean readUnit(int depth, boolean sumThere) {
-            int b = sumThere ? NONE : nextByte();
-            if (b == '!' || b == '(') {
-                if (depth >= NESTED_MOST) {
-                    return false;
-                }
-                at++;
-                if (b == '(') {
-                    return readCondition(depth + 1, false) && goesOnWith(')');
-                }
-                if (!readUnit(depth + 1, false)) {
-                    return false;
-                }
-                read.add(NOT);
-                return true;
+            int nots = 0;
+            while (!sumThere && nots + depth < NESTED_MOST && goesOnWith('!')) {
+                nots++;
             }
-            return (sumThere || readSum(depth)) && readComparison(depth);
+            int inside = depth + nots;
+            boolean good;
+            if (!sumThere && inside < NESTED_MOST && goesOnWith('(')) {
+                good = readCondition(inside + 1, false) && goesOnWith(')');
+            } else {
+                good = (sumThere || readSum(inside)) && readComparison(inside);
+            }
+            for (int n = 0; n < nots; n++) {
+                read.add(NOT);
+            }
+            return good;
         }
 
         private boolean readComparison(int depth) {
@@ -1006,52 +982,40 @@ public final class RingDrop {
         }
 
         private boolean readSum(int depth) {
-            if (!readTerm(depth)) {
-                return false;
-            }
+            int sign = NONE;
             for (int n = 0; n < TAPE_MOST; n++) {
-                int b = nextByte();
-                if (b != '+' && b != '-') {
-                    return true;
-                }
-                at++;
-                if (!readTerm(depth)) {
-                    return false;
-                }
-                read.add(b == '+' ? ADD : SUBTRACT);
-            }
-            return true;
-        }
-
-        private boolean readTerm(int depth) {
-            if (!readAtom(depth)) {
-                return false;
-            }
-            for (int n = 0; n < TAPE_MOST; n++) {
-                int b = nextByte();
-                if (b != '*' && b != '/') {
-                    return true;
-                }
-                at++;
                 if (!readAtom(depth)) {
                     return false;
                 }
-                read.add(b == '*' ? MULTIPLY : DIVIDE);
+                int b = nextByte();
+                for (int m = 0; m < TAPE_MOST && (b == '*' || b == '/'); m++) {
+                    at++;
+                    if (!readAtom(depth)) {
+                        return false;
+                    }
+                    read.add(b == '*' ? MULTIPLY : DIVIDE);
+                    b = nextByte();
+                }
+                if (sign != NONE) {
+                    read.add(sign == '+' ? ADD : SUBTRACT);
+                }
+                if (b != '+' && b != '-') {
+                    return true;
+                }
+                sign = b;
+                at++;
             }
             return true;
         }
 
         private boolean readAtom(int depth) {
             int b = nextByte();
-            if (b == '[') {
-                if (depth >= NESTED_MOST) {
-                    return false;
-                }
+            if (b >= '0' && b <= '9') {
+                return readNumber();
+            }
+            if (b == '[' && depth < NESTED_MOST) {
                 at++;
                 return readSum(depth + 1) && goesOnWith(']');
-            }
-            if (tape.digitAt(at)) {
-                return readNumber();
             }
             int letter = b == NONE ? NONE : letters.indexOf((char) b);
             if (letter < 0) {
@@ -1064,12 +1028,14 @@ public final class RingDrop {
 
         private boolean readNumber() {
             int v = 0;
-            for (int n = 0; n < DIGITS_MOST && tape.digitAt(at); n++) {
-                v = v * 10 + tape.byteAt(at) - '0';
+            int b = tape.byteAt(at);
+            for (int n = 0; n < DIGITS_MOST && b >= '0' && b <= '9'; n++) {
+                v = v * 10 + b - '0';
                 at++;
+                b = tape.byteAt(at);
             }
             read.add(v);
-            return !tape.digitAt(at);
+            return b < '0' || b > '9';
         }
     }
 
@@ -1099,8 +1065,11 @@ public final class RingDrop {
             return told[X] + told[K] > CELLS ? tape.length : NONE;
         }
 
+        /** The next byte that is no blank, NONE at the end; at is there then. */
         private int nextByte() {
-            at = tape.pastBlanks(at);
+            while (at < tape.length && tape.byteAt(at) == ' ') {
+                at++;
+            }
             return tape.byteAt(at);
         }
 
@@ -1112,17 +1081,20 @@ public final class RingDrop {
             }
             toldBits |= 1 << what;
             at++;
-            nextByte();
-            return tape.digitAt(at) && readNumber(what);
+            return readNumber(what);
         }
 
         private boolean readNumber(int what) {
             int v = 0;
-            for (int n = 0; n < DIGITS_MOST && tape.digitAt(at); n++) {
-                v = v * 10 + tape.byteAt(at) - '0';
+            int digits = 0;
+            int b = nextByte();
+            while (digits < DIGITS_MOST && b >= '0' && b <= '9') {
+                v = v * 10 + b - '0';
+                digits++;
                 at++;
+                b = tape.byteAt(at);
             }
-            if (tape.digitAt(at)) {
+            if (digits == 0 || b >= '0' && b <= '9') {
                 return false;
             }
             if (v < LOWEST[what] || v > HIGHEST[what]) {
@@ -1319,7 +1291,14 @@ public final class RingDrop {
                 flows[i] = 0;
             }
             for (int i = 0; i < bodyCount; i++) {
-                dryUp(bodies[i], pace);
+                Body b = bodies[i];
+                evaporate(b);
+                letGo(b, pace);
+                reshape(b);
+                carryAll(b);
+                stir(b);
+                wander(b);
+                layDown(b, pace);
             }
             if (ticks < arrivals.length) {
                 arrivals[ticks] = arrived;
@@ -1330,20 +1309,6 @@ public final class RingDrop {
                 rushTick = ticks;
             }
             dropTheDry();
-        }
-
-        private void dryUp(Body b, int pace) {
-            evaporate(b);
-            if (waterOf(b) < b.made[E] * b.width() && b.width() > 2 * b.made[J] + 1) {
-                letGo(b, pace);
-            }
-            reshape(b);
-            carryAll(b);
-            if (b.made[M] >= 50) {
-                stir(b);
-            }
-            wander(b);
-            layDown(b, pace);
         }
 
         private void evaporate(Body b) {
@@ -1366,19 +1331,21 @@ public final class RingDrop {
         }
 
         private void letGo(Body b, int pace) {
-            for (int n = 0; n < b.made[J] && b.width() > 2; n++) {
-                giveUp(b.first, b.first + 1, pace);
+            int jump = b.made[J];
+            if (waterOf(b) >= b.made[E] * b.width() || b.width() <= 2 * jump + 1) {
+                return;
+            }
+            for (int n = 0; n < jump; n++) {
+                lieDown(b.first, free[0][b.first], free[1][b.first], pace);
+                lieDown(b.last, free[0][b.last], free[1][b.last], pace);
+                water[b.first + 1] += water[b.first];
+                water[b.last - 1] += water[b.last];
+                water[b.first] = 0;
+                water[b.last] = 0;
                 b.first++;
-                giveUp(b.last, b.last - 1, pace);
                 b.last--;
             }
             b.lets++;
-        }
-
-        private void giveUp(int cell, int inward, int pace) {
-            lieDown(cell, free[0][cell], free[1][cell], pace);
-            water[inward] += water[cell];
-            water[cell] = 0;
         }
 
         private void lieDown(int cell, int round, int lengthy, int pace) {
@@ -1437,6 +1404,9 @@ public final class RingDrop {
         }
 
         private void stir(Body b) {
+            if (b.made[M] < STIRRED_FROM) {
+                return;
+            }
             for (int cell = b.first; cell < b.last; cell++) {
                 for (int sort = 0; sort < SORTS; sort++) {
                     // Cut towards 0, so from either side as many go.
@@ -1519,7 +1489,7 @@ public final class RingDrop {
         }
 
         int lyingAt(int cell) {
-            return isCell(cell) ? lying[0][cell] + lying[1][cell] : 0;
+            return cell >= 0 && cell < CELLS ? lying[0][cell] + lying[1][cell] : 0;
         }
 
         int lyingAll() {
