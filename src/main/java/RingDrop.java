@@ -1159,13 +1159,16 @@ public final class RingDrop {
     /** A strip, the drops on it and what has been on it since its start. */
     private static final class Strip {
         final int[] water = new int[CELLS];
+        // Within a tick alone: the water ahead of its shape, how many came to lie, what letters stand for.
         final int[] before = new int[CELLS];
+        final int[] letters = new int[LAW_LETTERS.length()];
+        int arrived;
         final int[][] free = new int[SORTS][CELLS];
         final int[][] lying = new int[SORTS][CELLS];
         final int[] heaped = new int[CELLS];
         final int[] flows = new int[CELLS];
+        // As many as there were ticks; what is behind these is of an earlier start.
         final int[] arrivals = new int[CAME_KEPT];
-        final int[] letters = new int[LAW_LETTERS.length()];
         final Body[] bodies = new Body[DROPS_MOST];
         int bodyCount;
         // Bits of the cells that were a drop's, and those that were a drop's first or last, at the start.
@@ -1176,7 +1179,6 @@ public final class RingDrop {
         int ticks;
         int gone;
         int outward;
-        int arrived;
         int rushTick;
         int rushMost;
 
@@ -1189,16 +1191,12 @@ public final class RingDrop {
         void clear(Formula itsLaw, long seed) {
             for (int i = 0; i < CELLS; i++) {
                 water[i] = 0;
-                before[i] = 0;
                 heaped[i] = 0;
                 flows[i] = 0;
                 for (int sort = 0; sort < SORTS; sort++) {
                     free[sort][i] = 0;
                     lying[sort][i] = 0;
                 }
-            }
-            for (int i = 0; i < CAME_KEPT; i++) {
-                arrivals[i] = 0;
             }
             bodyCount = 0;
             startCells = 0;
@@ -1208,7 +1206,6 @@ public final class RingDrop {
             ticks = 0;
             gone = 0;
             outward = 0;
-            arrived = 0;
             rushTick = 0;
             rushMost = 0;
         }
@@ -1595,7 +1592,6 @@ public final class RingDrop {
 
         void copy(Strip other) {
             System.arraycopy(other.water, 0, water, 0, CELLS);
-            System.arraycopy(other.before, 0, before, 0, CELLS);
             System.arraycopy(other.heaped, 0, heaped, 0, CELLS);
             System.arraycopy(other.flows, 0, flows, 0, CELLS);
             System.arraycopy(other.arrivals, 0, arrivals, 0, CAME_KEPT);
@@ -1614,7 +1610,6 @@ public final class RingDrop {
             ticks = other.ticks;
             gone = other.gone;
             outward = other.outward;
-            arrived = other.arrived;
             rushTick = other.rushTick;
             rushMost = other.rushMost;
         }

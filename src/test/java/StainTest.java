@@ -28,6 +28,8 @@ public final class StainTest {
             Check.same("count", r.count(3), n + 1);
             Check.same("all 0", r.blot(n, 0), 0);
         }
+        Check.same("no rows", r.blot(0, 1), 0);
+        Check.same("no grains", r.blot(0, 2), 0);
         Check.same("a seventh", r.stain(), -1);
         Check.same("count", r.count(3), 6);
         Check.no("no such stain", r.grain(6, 0, 1));
@@ -109,6 +111,10 @@ public final class StainTest {
         r.grain(0, 23, 2);
         Check.same("another cell", r.read(0, 0, 15, 9, 60, 1), 0);
         r.grain(0, 23, 0);
+        r.grain(0, 1, 5);
+        Check.same("5 5 by 0", r.read(0, 0, 15, 9, 60, 0), 1);
+        Check.same("a weight of 1 at first", r.odds(0, 0, 15, 9, 60, 0), 1);
+        r.grain(0, 1, 4);
         Check.yes("weigh", r.weigh(0, 9));
         Check.yes("weigh", r.weigh(3, 2));
         Check.no("weigh 0", r.weigh(1, 0));
@@ -220,8 +226,12 @@ public final class StainTest {
         Check.same("one", r.saved(0, 0, 8, 9), 3);
         Check.same("several: the lowest", r.saved(0, 1, 14, 9), 1);
         Check.same("several: the lowest", r.saved(0, 1, 12, 9), 2);
+        told(r, 0, 0, 5, 5);
+        Check.same("saved without being off", r.saved(0, 0, 3, 9), 0);
+        int twin = Check.drop(r, "k2,w100,l10");
+        Check.same("twins: the lowest", r.saved(0, 0, 1 | 1 << twin, 9), 0);
         Check.same("no drops", r.saved(0, 0, 0, 9), -1);
-        Check.same("no such drops", r.saved(0, 0, 16, 9), -1);
+        Check.same("no such drops", r.saved(0, 0, 32, 9), -1);
         Check.same("no such drops", r.saved(0, 0, -1, 9), -1);
     }
 

@@ -82,6 +82,10 @@ public final class StripTest {
         Check.same("a gap between", r.start(0, 6, 0), 2);
         Check.same("sorted from the left", r.body(0, 0), 0);
         Check.same("sorted from the left", r.body(1, 0), 4);
+        RingDrop t = with("y:0", "x2,k2,w10,c7,s9", "x4,k2,w10", "x0,k2,w10,s1");
+        t.start(0, 7, 0);
+        // As the middle one, the lowest: 6 10 12 12 10 6 times 10 19 28 37 46 55 by 1,820, and 30 of water.
+        water(t, 0, 1 + 0, 3 + 1, 5 + 1, 7, 7, 5);
         RingDrop s = with("y:0", "x2,k2,w10,s0", "x0,k2,w30,s9");
         s.start(0, 3, 0);
         water(s, 0, 8, 12, 12, 8);
@@ -118,6 +122,14 @@ public final class StripTest {
         r.tick(1);
         // Ten of the hundred that are left are long then: they hold one another.
         free(r, 1, 1, 12, 10, 11);
+        RingDrop few = with("y:i=0?10;y:0", "x1,k3,w100,g24,l3,c99", "x1,k3,w100,g27,l3,c99", "x1,k3,w100,g30,l3,c99");
+        int[][] rest = {{8, 8, 8}, {9, 9, 9}, {11, 9, 10}};
+        for (int d = 0; d < 3; d++) {
+            few.start(0, 1 << d, calm);
+            few.tick(1);
+            free(few, 1, 0, rest[d]);
+            free(few, 1, 1, 1, 1, 1);
+        }
         Check.same("start empties flow", r.start(0, 1, calm), 1);
         Check.same("flow", r.flow(1), 0);
         Check.same("speed", r.speed(), 0);
@@ -133,6 +145,11 @@ public final class StripTest {
         Check.same("flow", r.flow(1), 0);
         Check.same("flow", r.flow(2), -4);
         Check.same("none outward", r.speed(), 0);
+        // Of 100 in each 100 * 4 / 20 go inward from either end.
+        int full = Check.drop(r, "k4,w100,g400,c99");
+        r.start(0, 1 << full, seedFor(0, 0, 0, 0));
+        r.tick(1);
+        free(r, 0, 0, 80, 120, 120, 80);
         // 5 30 30 5 become 14 21 21 14 in each.
         RingDrop s = with("y:i=0?15", "k4,w100", "x6,k4,w100");
         s.start(0, 3, 0);
@@ -155,6 +172,93 @@ public final class StripTest {
         Check.same("speed of two drops", r.speed(), 16);
         Check.same("ticks without drops", r.tick(1), 1);
         Check.same("speed of the latest tick", r.speed(), 0);
+    }
+
+    private static void farSpeeds() {
+        // The first cell alone loses all: water flows to the left, outward in the left half.
+        RingDrop r = with("y:i=0&g=2?w", "x17,k5,w110,g6,c99");
+        r.start(0, 1, seedFor(0, 0, 0, 0, 0));
+        water(r, 17, 16, 26, 28, 25, 15);
+        r.tick(1);
+        water(r, 17, 14, 22, 24, 21, 13);
+        int[] flow = {-14, -10, -6, -2};
+        for (int i = 0; i < 4; i++) {
+            Check.same("flow " + i, r.flow(17 + i), flow[i]);
+        }
+        Check.same("speed", r.speed(), 24);
+    }
+
+    private static void flowOfOne() {
+        // 3 4 3 less 1 at the first: 2 4 3 become 3 4 2.
+        RingDrop r = with("y:t=0&i=0&g=2?1", "k3,w10,g4,c99");
+        r.start(0, 1, seedFor(0, 3, 3));
+        water(r, 0, 3, 4, 3);
+        free(r, 0, 0, 2, 1, 1);
+        r.tick(1);
+        water(r, 0, 3, 4, 2);
+        Check.same("flow", r.flow(0), -1);
+        Check.same("flow", r.flow(1), -1);
+        Check.same("speed", r.speed(), 1);
+        RingDrop s = with("y:t=0&i=0&g=4?1", "k3,w10,g10,c99");
+        s.start(0, 1, seedFor(0, 3, 3));
+        s.tick(1);
+        // Of 3 in the middle 3 * 1 / 4 go, of 3 in the last a third.
+        free(s, 0, 0, 4, 4, 2);
+    }
+
+    private static void lastWater() {
+        RingDrop r = with("y:i=0&w=1&t>0?1;y:0", "k2,w1,l1,c99");
+        r.start(0, 1, 0);
+        r.tick(1);
+        Check.same("there is one left", r.about(7), 1);
+        Check.same("it ticks", r.tick(5), 1);
+        Check.same("gone", r.about(7), 0);
+    }
+
+    private static void afterOthers() {
+        RingDrop r = with("y:i=0?10;y:t>0?9", "k3,w30,g9", "x8,k3,w500,g9,c99", "x16,k3,w500,g9,c99,e90");
+        r.start(0, 7, 0);
+        r.tick(1);
+        Check.yes("it flows", r.flow(0) != 0);
+        Check.same("three are there", r.about(7), 3);
+        r.tick(3);
+        Check.same("the first is gone", r.about(7), 2);
+        Check.same("no flow there", r.flow(0), 0);
+        Check.same("the second", r.body(0, 0), 8);
+        Check.same("start anew", r.start(0, 7, 0), 3);
+        for (int i = 0; i < 3; i++) {
+            Check.same("body " + i, r.body(i, 0), 8 * i);
+            Check.same("body " + i, r.body(i, 1), 8 * i + 2);
+            Check.same("body " + i, r.body(i, 3), 0);
+        }
+        r.tick(60);
+        r.start(0, 1, 0);
+        for (int c = 3; c < 24; c++) {
+            Check.same("all is emptied", r.water(c) + r.free(c, 0) + r.free(c, 1) + r.lies(c, 0) + r.lies(c, 1) + r.heap(c, 1), 0);
+            Check.same("all is emptied", r.flow(c), 0);
+        }
+        RingDrop s = with("y:w", "x4,k2,w9", "x3,k4,w9,l4", "x3,k5,w9,l5");
+        s.start(0, 1, 0);
+        s.start(0, 2, 0);
+        s.tick(1);
+        Check.same("the ends of now", s.about(0), 50);
+        Check.same("the cells of now", s.about(2), 0);
+    }
+
+    private static void unlikeGrains() {
+        // 3 round and 1 long in the first, 2 and 1, .., 2 and 0 in the last.
+        RingDrop r = with("y:0", "k6,w60,g13,l4,e99,c99");
+        r.start(0, 1, seedFor(0, 0, 0, 0));
+        r.tick(1);
+        lies(r, 0, 0, 3, 0, 0, 0, 0, 2);
+        lies(r, 0, 1, 1, 0, 0, 0, 0, 0);
+        Check.same("in the heap", r.heap(0, 1), 4);
+        Check.same("in rows", r.heap(5, 0), 2);
+        RingDrop one = with("y:w", "x5,k2,w9,l1");
+        one.start(0, 1, 0);
+        one.tick(1);
+        Check.same("middle of one", one.middle(0), 50);
+        Check.same("spread of one", one.middle(1), 0);
     }
 
     private static void wandering() {
@@ -410,6 +514,11 @@ public final class StripTest {
         flows();
         flowsInward();
         speeds();
+        farSpeeds();
+        flowOfOne();
+        lastWater();
+        afterOthers();
+        unlikeGrains();
         wandering();
         lyingDown();
         lettingGo();

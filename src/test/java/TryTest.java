@@ -180,16 +180,18 @@ public final class TryTest {
         Check.law(r, "y:w");
         Check.want(r, "v=2");
         Check.drop(r, "k2,w9,g2");
-        // One grain in each cell: the first draw moves its one to the right, the second its to the left.
-        int due = 0;
-        for (int n = 0; n < 20; n++) {
-            long x = (40L + n) * 6364136223846793005L + 1442695040888963407L;
-            long one = x >>> 33 & 3;
-            long two = x * 6364136223846793005L + 1442695040888963407L >>> 33 & 3;
-            due += (one == 2) != (two == 1) ? 1 : 0;
+        for (int first = 40; first < 49; first++) {
+            int due = 0;
+            for (int n = 0; n < 20; n++) {
+                // One grain in each cell: the first draw moves its one to the right, the second then one to the left.
+                long x = (first + (long) n) * 6364136223846793005L + 1442695040888963407L;
+                long one = x >>> 33 & 3;
+                long two = x * 6364136223846793005L + 1442695040888963407L >>> 33 & 3;
+                due += (one == 2) != (two == 1) ? 1 : 0;
+            }
+            Check.yes("a mixed lot", due > 0 && due < 20);
+            Check.same("luck of twenty from " + first, r.luck(0, 0, 0, first, 20, 1), due);
         }
-        Check.yes("a mixed lot", due > 0 && due < 20);
-        Check.same("luck of twenty", r.luck(0, 0, 0, 40, 20, 1), due);
     }
 
     private static void dry() {
@@ -300,7 +302,7 @@ public final class TryTest {
         Check.same("none at all", r.dots(0, 2, 9, 60), 0);
         int due = 0;
         int wander = Check.drop(r, "k4,w90,g37");
-        for (long seed = 0; seed < 12; seed++) {
+        for (long seed = 0; seed < 120; seed++) {
             for (int gap = due = 0; gap < 10; gap++) {
                 if (r.printed(0, wander, gap, seed, 60, 0) < r.printed(0, wander, due, seed, 60, 0)) {
                     due = gap;
