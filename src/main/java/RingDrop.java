@@ -1312,6 +1312,7 @@ public final class RingDrop {
             if (law == null) {
                 return;
             }
+            // In the order of LAW_LETTERS.
             letters[3] = ticks;
             letters[4] = b.made[M];
             letters[5] = b.made[A];

@@ -122,8 +122,9 @@ public final class StripTest {
         r.tick(1);
         // Ten of the hundred that are left are long then: they hold one another.
         free(r, 1, 1, 12, 10, 11);
-        RingDrop few = with("y:i=0?10;y:0", "x1,k3,w100,g24,l3,c99", "x1,k3,w100,g27,l3,c99", "x1,k3,w100,g30,l3,c99");
-        int[][] rest = {{8, 8, 8}, {9, 9, 9}, {11, 9, 10}};
+        // 0 40 0 become 12 16 12: of ten in the middle 10 * 12 / 40 go to the left, and then one long one of eight holds.
+        RingDrop few = with("y:i=0?w;y:0", "x1,k3,w100,g24,l3,c99", "x1,k3,w100,g27,l3,c99", "x1,k3,w100,g30,l3,c99");
+        int[][] rest = {{8, 8, 8}, {9, 9, 9}, {13, 7, 10}};
         for (int d = 0; d < 3; d++) {
             few.start(0, 1 << d, calm);
             few.tick(1);
@@ -204,6 +205,36 @@ public final class StripTest {
         s.tick(1);
         // Of 3 in the middle 3 * 1 / 4 go, of 3 in the last a third.
         free(s, 0, 0, 4, 4, 2);
+        // 0 1 become 1 0: all of 2 go from a cell of 1.
+        RingDrop t = with("y:w=2?2;y:0", "k2,w3,g4,c99");
+        t.start(0, 1, seedFor(0, 0));
+        water(t, 0, 2, 1);
+        t.tick(1);
+        Check.same("flow", t.flow(0), -1);
+        water(t, 0, 1, 0);
+        free(t, 0, 0, 4, 0);
+        lies(t, 0, 0, 0, 0);
+        RingDrop u = with("y:w=3&i=0?1;y:0", "k3,w8,g9,c99");
+        u.start(0, 1, seedFor(0, 0, 0));
+        water(u, 0, 3, 3, 2);
+        u.tick(1);
+        // 2 3 2 become 3 2 2: of 3 in the middle 3 * 1 / 3 go to the left.
+        water(u, 0, 3, 2, 2);
+        free(u, 0, 0, 4, 2, 3);
+        RingDrop v = with("y:i=0&g=1?1;y:0", "k3,w12,g5,c99");
+        v.start(0, 1, seedFor(0, 0, 0));
+        water(v, 0, 4, 5, 3);
+        v.tick(1);
+        // 4 5 2 become 4 4 3: of 2 in the middle none go for one of five.
+        water(v, 0, 4, 4, 3);
+        Check.same("flow", v.flow(1), 1);
+        Check.same("speed", v.speed(), 1);
+        free(v, 0, 0, 2, 2, 1);
+        RingDrop w = with("y:i=0&g=5?1;y:0", "k3,w12,g17,c99");
+        w.start(0, 1, seedFor(0, 0, 0));
+        w.tick(1);
+        // 6 6 5: of 6 in the middle 6 * 1 / 5 go.
+        free(w, 0, 0, 6, 5, 6);
     }
 
     private static void lastWater() {
@@ -231,6 +262,11 @@ public final class StripTest {
             Check.same("body " + i, r.body(i, 1), 8 * i + 2);
             Check.same("body " + i, r.body(i, 3), 0);
         }
+        r.start(0, 1, 0);
+        for (int c = 3; c < 24; c++) {
+            Check.same("none are free", r.free(c, 0), 0);
+        }
+        r.start(0, 7, 0);
         r.tick(60);
         r.start(0, 1, 0);
         for (int c = 3; c < 24; c++) {
@@ -342,6 +378,16 @@ public final class StripTest {
         r.tick(60);
         Check.same("lets of an even width", r.body(0, 3), 3);
         Check.same("width of two", r.body(0, 1) - r.body(0, 0), 1);
+        RingDrop s = with("y:i=0?10;y:0", "k6,w200,e30,j2,c99");
+        s.start(0, 1, 0);
+        s.tick(1);
+        Check.same("180 are not less", s.body(0, 3), 0);
+        Check.yes("it flows", s.flow(0) != 0 && s.flow(1) != 0 && s.flow(3) != 0 && s.flow(4) != 0);
+        s.tick(1);
+        Check.same("160 are", s.body(0, 3), 1);
+        for (int c : new int[] {0, 1, 3, 4}) {
+            Check.same("no flow any more from " + c, s.flow(c), 0);
+        }
         Check.same("no such body", r.body(1, 0), -1);
         Check.same("no such body", r.body(-1, 0), -1);
         Check.same("no such what", r.body(0, 4), -1);

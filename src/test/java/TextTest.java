@@ -245,8 +245,29 @@ public final class TextTest {
         goes(" y : [ i + 1 ] * 2 = 2 ? 0004 ", d, 1, 8);
     }
 
+    /** Texts that fill the tape, each byte of them something to work off. */
+    private static void longTexts() {
+        RingDrop r = new RingDrop();
+        Check.same("want", Check.want(r, "!" + "n+".repeat(78) + "n=1"), 0);
+        Check.same("want", Check.want(r, "!" + "n+".repeat(78) + "n=0"), 1);
+        Check.same("met", r.met(0), 1);
+        Check.same("not met", r.met(1), 0);
+        Check.same("want", Check.want(r, "!n=n|".repeat(31) + "t=0"), 2);
+        Check.same("met", r.met(2), 1);
+        Check.same("law", Check.law(r, "y:" + "1+".repeat(78) + "1"), 0);
+        Check.same("law", Check.law(r, "y:i=9?1;".repeat(19) + "y:2"), 1);
+        Check.drop(r, "k2,w900");
+        r.start(0, 1, 0);
+        r.tick(1);
+        Check.same("79 from each", r.about(6), 158);
+        r.start(1, 1, 0);
+        r.tick(1);
+        Check.same("2 from each", r.about(6), 4);
+    }
+
     public static void main(String[] args) {
         newObject();
+        longTexts();
         tape();
         faultsOfLaws();
         faultsOfWants();

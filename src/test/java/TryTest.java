@@ -300,16 +300,20 @@ public final class TryTest {
         // Six on five cells: 2 1 1 1 1; 24 on 20 as one: 2 2 2 2 1 ..: even 1 by every gap.
         Check.same("several: the lowest", r.dots(0, 0, 9, 60), 0);
         Check.same("none at all", r.dots(0, 2, 9, 60), 0);
-        int due = 0;
-        int wander = Check.drop(r, "k4,w90,g37");
-        for (long seed = 0; seed < 120; seed++) {
-            for (int gap = due = 0; gap < 10; gap++) {
-                if (r.printed(0, wander, gap, seed, 60, 0) < r.printed(0, wander, due, seed, 60, 0)) {
-                    due = gap;
+        boolean[] found = new boolean[10];
+        for (int drop : new int[] {Check.drop(r, "k4,w90,g37"), Check.drop(r, "k8,w90,g80")}) {
+            for (long seed = 0; seed < 60; seed++) {
+                int due = 0;
+                for (int gap = 0; gap < 10; gap++) {
+                    if (r.printed(0, drop, gap, seed, 60, 0) < r.printed(0, drop, due, seed, 60, 0)) {
+                        due = gap;
+                    }
                 }
+                Check.same("dots of seed " + seed, r.dots(0, drop, seed, 60), due);
+                found[due] = true;
             }
-            Check.same("dots of seed " + seed, r.dots(0, wander, seed, 60), due);
         }
+        Check.yes("the widest gap at times", found[9]);
         Check.same("one grain of two cells", r.printed(0, 1, 3, 9, 60, 0), 1);
     }
 
