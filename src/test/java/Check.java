@@ -1,10 +1,7 @@
-/** What the tests share: counting wrong answers, and putting texts on the tape. */
-final class Check {
+/** What the tests share: counting wrong answers, putting texts on the tape, looking at a row of cells. */
+abstract class Check {
     private static int wrong = 0;
     private static int asked = 0;
-
-    private Check() {
-    }
 
     static void same(String call, long got, long due) {
         asked++;
@@ -76,6 +73,60 @@ final class Check {
         } catch (java.util.NoSuchElementException e) {
             return true;
         }
+    }
+
+    /** A new object with a law and some drops. */
+    static RingDrop with(String law, String... drops) {
+        RingDrop r = new RingDrop();
+        law(r, law);
+        for (String drop : drops) {
+            drop(r, drop);
+        }
+        return r;
+    }
+
+    static void water(RingDrop r, int from, int... due) {
+        for (int i = 0; i < due.length; i++) {
+            same("water " + (from + i), r.water(from + i), due[i]);
+        }
+    }
+
+    static void flow(RingDrop r, int from, int... due) {
+        for (int i = 0; i < due.length; i++) {
+            same("flow " + (from + i), r.flow(from + i), due[i]);
+        }
+    }
+
+    static void free(RingDrop r, int from, int sort, int... due) {
+        for (int i = 0; i < due.length; i++) {
+            same("free " + (from + i) + " of " + sort, r.free(from + i, sort), due[i]);
+        }
+    }
+
+    static void lies(RingDrop r, int from, int sort, int... due) {
+        for (int i = 0; i < due.length; i++) {
+            same("lies " + (from + i) + " of " + sort, r.lies(from + i, sort), due[i]);
+        }
+    }
+
+    /** The first seed from 0 on whose draws of 4 begin so. */
+    static long seedFor(int... draws) {
+        for (long seed = 0; ; seed++) {
+            if (java.util.Arrays.equals(draws(seed, draws.length), draws)) {
+                return seed;
+            }
+        }
+    }
+
+    /** The first draws of 4 from a seed. */
+    static int[] draws(long seed, int many) {
+        int[] drawn = new int[many];
+        long x = seed;
+        for (int n = 0; n < many; n++) {
+            x = x * 6364136223846793005L + 1442695040888963407L;
+            drawn[n] = (int) (x >>> 33 & 3);
+        }
+        return drawn;
     }
 
     static void finish(String name) {

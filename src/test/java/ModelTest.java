@@ -13,7 +13,12 @@ public final class ModelTest {
     private final Random random;
     private final RingDrop real = new RingDrop();
     private final Model model = new Model();
+    /** What later calls of one object answer is free. */
+    private static final int CALLS_MOST = 512;
+    private static final int CALLS_OF_LOOK = 26 * 8;
+
     private String log = "";
+    private int calls;
 
     private ModelTest(long seed) {
         random = new Random(seed);
@@ -117,6 +122,7 @@ public final class ModelTest {
 
     private void same(String call, long got, long due) {
         log += call + "\n";
+        calls++;
         Check.same(call, got, due);
         if (got != due) {
             throw new IllegalStateException("after\n" + log);
@@ -158,7 +164,8 @@ public final class ModelTest {
 
     private void run() {
         texts(12);
-        for (int n = 0; n < 180; n++) {
+        // One way of calling makes eight calls at most.
+        for (int n = 0; n < 240 && calls + 8 + CALLS_OF_LOOK <= CALLS_MOST; n++) {
             call(below(100));
         }
         look();
@@ -349,7 +356,7 @@ public final class ModelTest {
     }
 
     public static void main(String[] args) {
-        int runs = args.length > 0 ? Integer.parseInt(args[0]) : 25;
+        int runs = args.length > 0 ? Integer.parseInt(args[0]) : 30;
         long from = args.length > 1 ? Long.parseLong(args[1]) : 1;
         for (int n = 0; n < runs; n++) {
             ModelTest t = new ModelTest(from + n);

@@ -84,7 +84,7 @@ public final class StainTest {
         Check.same("no such stain", r.print(1), -1);
         Check.same("no such stain", r.print(-1), -1);
         int mixed = Check.drop(r, "x6,k2,w9,g3,l5");
-        r.start(0, 1 << mixed, StripTest.seedFor(0, 0));
+        r.start(0, 1 << mixed, Check.seedFor(0, 0));
         r.grain(0, 9, 9);
         r.tick(1);
         Check.same("of both sorts", r.print(0), 8);

@@ -1,47 +1,5 @@
 /** Promises 8 to 19, 32, 33, 43 and 44: drops that dry on the strip, what is told of it, an image of it. */
-public final class StripTest {
-    /** The first seed from 0 on whose draws of 4 begin so. */
-    static long seedFor(int... draws) {
-        for (long seed = 0; ; seed++) {
-            long x = seed;
-            boolean fits = true;
-            for (int n = 0; n < draws.length && fits; n++) {
-                x = x * 6364136223846793005L + 1442695040888963407L;
-                fits = (x >>> 33 & 3) == draws[n];
-            }
-            if (fits) {
-                return seed;
-            }
-        }
-    }
-
-    private static RingDrop with(String law, String... drops) {
-        RingDrop r = new RingDrop();
-        Check.law(r, law);
-        for (String drop : drops) {
-            Check.drop(r, drop);
-        }
-        return r;
-    }
-
-    private static void water(RingDrop r, int from, int... due) {
-        for (int i = 0; i < due.length; i++) {
-            Check.same("water " + (from + i), r.water(from + i), due[i]);
-        }
-    }
-
-    private static void free(RingDrop r, int from, int sort, int... due) {
-        for (int i = 0; i < due.length; i++) {
-            Check.same("free " + (from + i) + " of " + sort, r.free(from + i, sort), due[i]);
-        }
-    }
-
-    private static void lies(RingDrop r, int from, int sort, int... due) {
-        for (int i = 0; i < due.length; i++) {
-            Check.same("lies " + (from + i) + " of " + sort, r.lies(from + i, sort), due[i]);
-        }
-    }
-
+public final class StripTest extends Check {
     private static void starts() {
         RingDrop r = with("y:0", "x3,k4,w100,g6,l3", "x7,k2,w3", "x6,k2", "x10,k3,w60,s2", "x14,k3,w5");
         Check.same("no such law", r.start(1, 1, 0), -1);
@@ -509,35 +467,60 @@ public final class StripTest {
         Check.same("cell 0 alone", s.about(1), 2);
     }
 
-    private static void images() {
+    private static RingDrop forImages() {
         RingDrop r = with("y:10", "k2,w100,l10", "x10,k5,w400,g40,l4,e20,c6", "x20,k2,w9,l3");
+        r.start(0, 3, 9);
+        r.tick(6);
+        return r;
+    }
+
+    private static void images() {
+        RingDrop r = with("y:10", "k2,w100,l10", "x10,k5,w400,g40,l4,e20,c6");
         Check.same("no image", r.back(), -1);
         Check.same("an image of nothing", r.image(), 0);
         r.start(0, 3, 9);
         r.tick(4);
         Check.same("back to nothing", r.back(), 0);
         Check.same("no start there", r.tick(1), -1);
+        Check.same("no drops there", r.about(7), 0);
         r.start(0, 3, 9);
         r.tick(6);
+        Check.same("the image stays over a start", r.back(), 0);
+        r.start(0, 3, 9);
+        r.tick(7);
+        Check.same("an image instead", r.image(), 7);
+        r.tick(1);
+        Check.same("back to that one", r.back(), 7);
+        r.start(0, 1, 9);
+        Check.same("back once more", r.back(), 7);
+        Check.same("drops as then", r.about(7), 1);
+    }
+
+    private static void backToAllOfIt() {
+        RingDrop r = forImages();
         Check.same("image", r.image(), 6);
         String then = all(r);
         r.tick(2);
-        String later = all(r);
         r.pace(1);
         r.start(0, 4, 3);
         r.tick(1);
         Check.same("back", r.back(), 6);
         Check.yes("all is so again", all(r).equals(then));
         Check.same("the pace is not the strip's", r.count(5), 1);
-        r.pace(3);
+    }
+
+    private static void onFromAnImage() {
+        RingDrop r = forImages();
+        r.image();
+        r.start(0, 4, 3);
+        r.tick(1);
+        r.back();
         Check.same("it goes on", r.tick(2), 2);
-        Check.yes("all is as it was later", all(r).equals(later));
-        Check.same("back once more", r.back(), 6);
-        Check.yes("all is so again", all(r).equals(then));
-        r.tick(1);
-        Check.same("an image instead", r.image(), 7);
-        r.tick(1);
-        Check.same("back to that one", r.back(), 7);
+        RingDrop other = forImages();
+        other.tick(2);
+        Check.yes("all is as it would have been", all(r).equals(all(other)));
+        Check.same("back", r.back(), 6);
+        Check.yes("all is so again", all(r).equals(all(forImages())));
     }
 
     private static String all(RingDrop r) {
@@ -574,6 +557,8 @@ public final class StripTest {
         abouts();
         atTheEdge();
         images();
+        backToAllOfIt();
+        onFromAnImage();
         Check.finish("StripTest");
     }
 }
