@@ -340,7 +340,7 @@ public final class ModelTest {
                 }
             }
             case 13 -> {
-                if (below(12) == 0) {
+                if (below(4) == 0) {
                     same("saved" + told, real.saved(stain, law, bits & 19, seed), model.saved(stain, law, bits & 19, seed));
                 }
             }

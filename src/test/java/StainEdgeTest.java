@@ -303,6 +303,22 @@ public final class StainEdgeTest extends Check {
         }
     }
 
+    /** What counts is the tick that is least off, not the end. */
+    private static void savedByAStepOnTheWay() {
+        // 40 and 40 bear 20 each, 34 and 34 bear 17: 3 of 20 lie behind the first tick, all of them in the end.
+        RingDrop r = withStains(1, "y:t=0?6;y:w", "k2,w80,l40", "k2,w9,l8");
+        told(r, 0, 0, 3, 3);
+        same("the first tick", r.steps(0, 0, 0, 0, 0), 1);
+        same("none off", r.steps(0, 0, 0, 0, 1), 0);
+        same("2 off", r.steps(0, 0, 1, 0, 1), 2);
+        same("the one that is none off on the way", r.saved(0, 0, 3, 0), 0);
+        told(r, 0, 0, 4, 4);
+        same("2 off and none", r.saved(0, 0, 3, 0), 1);
+        told(r, 0, 0, 20, 20);
+        same("none off in the end", r.saved(0, 0, 3, 0), 0);
+        same("the second tick", r.steps(0, 0, 0, 0, 0), 2);
+    }
+
     public static void main(String[] args) {
         sixStains();
         grainsToldForCells();
@@ -317,6 +333,7 @@ public final class StainEdgeTest extends Check {
         rowsOfCells();
         stepsFromOneToSixty();
         savedWithTheLeastOff();
+        savedByAStepOnTheWay();
         finish("StainEdgeTest");
     }
 }

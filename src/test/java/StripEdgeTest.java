@@ -309,7 +309,11 @@ public final class StripEdgeTest extends Check {
         RingDrop r = ticked("y:i=1|g=6?w", "k3,w100,g20,c99", 1);
         flow(r, 0, 21, 9, 0);
         free(r, 0, 0, 3, 11, 6);
-        same("speed", r.speed(), 9);
+        same("the 9 alone are outward", r.speed(), 9);
+        r = ticked("y:i=1|g=6?w", "x21,k3,w100,g20,c99", 1);
+        flow(r, 20, 0, 21, 9, 0);
+        free(r, 20, 0, 0, 3, 11, 6);
+        same("the 9 alone are outward", r.speed(), 9);
         // 0 0 30 become 9 12 9; of 6 in the last 6 * 21 / 30 go.
         r = with("y:i=1|t=0&g=7?w", "k3,w100,g20,c99");
         r.start(0, 1, seedFor(0, 0, 0));
@@ -385,6 +389,14 @@ public final class StripEdgeTest extends Check {
         // One more is not two more.
         r = ticked("y:0", "k3,w100,g4,l5,c99,m99", 5);
         free(r, 0, 1, 2, 2, 1);
+    }
+
+    private static void warmthAheadOfWandering() {
+        RingDrop r = with("y:g=53?0;y:w", "k2,w100,g99,l9,c99,m50");
+        r.start(0, 1, seedFor(2, 0));
+        r.tick(1);
+        free(r, 0, 0, 49, 50);
+        free(r, 0, 1, 5, 4);
     }
 
     // ---- (6) ----
@@ -541,6 +553,27 @@ public final class StripEdgeTest extends Check {
         r.tick(1);
         same("none any more", r.flow(4), 0);
         same("speed", r.speed(), 0);
+    }
+
+    // ---- 18: speed ----
+
+    private static void speedOfTheHalves() {
+        // 20 30 30 20 lose 10 of the last: 18 27 27 18; what flows from one half into the other is in neither.
+        RingDrop r = ticked("y:g=0?10;y:0", "x9,k4,w100,g3,c99", 1);
+        flow(r, 8, 0, 2, 5, 8, 0);
+        same("the last two", r.speed(), 8);
+        // And 10 of the first.
+        r = ticked("y:g=2?10;y:0", "x9,k4,w100,g5,c99", 1);
+        flow(r, 8, 0, -8, -5, -2, 0);
+        same("the first two", r.speed(), 8);
+        // 29 46 52 45 28 lose 20 of the last: 26 42 46 41 25; the middle cell is as near to both ends.
+        r = ticked("y:g=0?20;y:0", "x9,k5,w200,g4,c99", 1);
+        flow(r, 8, 0, 3, 7, 13, 17, 0);
+        same("out of the middle, to the right", r.speed(), 30);
+        r = ticked("y:g=2?20;y:0", "x9,k5,w200,g6,c99", 1);
+        flow(r, 8, 0, -17, -13, -7, -3, 0);
+        same("out of the middle, to the left", r.speed(), 30);
+        same("without a tick", with("y:0", "k2").speed(), 0);
     }
 
     // ---- 16: about ----
@@ -732,6 +765,7 @@ public final class StripEdgeTest extends Check {
         longOnesHold();
         bothSortsGo();
         warmthOfFifty();
+        warmthAheadOfWandering();
         drawsFromAnySeed();
         noneWanderBeyondTheDrop();
         eachCellDrawsOfEachDrop();
@@ -741,6 +775,7 @@ public final class StripEdgeTest extends Check {
         aDropWithoutWaterIsGone();
         noSuchOnes();
         flowOfTheLatestTick();
+        speedOfTheHalves();
         ringInHundredths();
         ringsAndNeighbours();
         evenOfTheStart();

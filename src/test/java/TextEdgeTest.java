@@ -195,6 +195,7 @@ public final class TextEdgeTest extends Check {
         faults(DROP, "x24", 2, "k1", 1, "k0", 1, "k25", 2, "w0", 1, "w1000", 4, "g1000", 4, "l1000", 4, "m100", 3, "a100", 3,
             "p101", 3, "c0", 1, "c100", 3, "e100", 3, "j0", 1, "j10", 2, "s10", 2, "x0024", 4, "k0001", 4, "w0000", 4, "j0000", 4,
             "g9999", 4, "s 99 ", 3, "c0,w5", 1, "w5,c0", 4);
+        faults(DROP, "g5:", 2, "g5/", 2, "g:", 1, "g/", 1, "g5:6", 2, "s9999:", 4, "s9999/", 4, "s9999,", 4);
         // A fifth digit itself, whatever stands ahead of it.
         faults(DROP, "g10000", 5, "s99999", 5, "w00000", 5, "j00001", 5, "c 00001", 6, "w5,k00002", 8);
     }
