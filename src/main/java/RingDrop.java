@@ -524,7 +524,7 @@ public final class RingDrop {
         int width = drops[drop][K];
         int many = 0;
         trial.clear(laws.at(law), seed);
-        for (int cell = 0; cell + width <= CELLS; cell += width + gap) {
+        for (int cell = 0; cell + width <= CELLS && many < DROPS_MOST; cell += width + gap) {
             trial.put(drops[drop], many, cell);
             many++;
         }
@@ -786,7 +786,8 @@ public final class RingDrop {
                 } else if (code == SKIP_UNLESS) {
                     depth--;
                     at++;
-                    at += top == 0 && at < codes.length ? codes[at] : 0;
+                    // Never back, so that the loop's end is plain here.
+                    at += top == 0 && at < codes.length ? Math.max(0, codes[at]) : 0;
                 } else if (depth < 2) {
                     return 0;
                 } else {
